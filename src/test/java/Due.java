@@ -1,0 +1,35 @@
+/** Counts the answers that are not as due, and ends a test. */
+final class Due {
+    private static int checked = 0;
+    private static int wrong = 0;
+
+    private Due() {
+    }
+
+    static void is(String where, long got, long want) {
+        checked++;
+        if (got != want) {
+            wrong++;
+            System.out.println(where + " answered " + got + ", due is " + want);
+        }
+    }
+
+    static void holds(String what, boolean so) {
+        checked++;
+        if (!so) {
+            wrong++;
+            System.out.println("not so: " + what);
+        }
+    }
+
+    static int wrong() {
+        return wrong;
+    }
+
+    static void end() {
+        System.out.println(wrong == 0 ? checked + " answers are as due" : wrong + " of " + checked + " answers are not as due");
+        if (wrong != 0 || checked == 0) {
+            System.exit(1);
+        }
+    }
+}
