@@ -1,5 +1,8 @@
 /** Counts the answers that are not as due, and ends a test. */
 final class Due {
+    /** So many wrong answers are printed; more are only counted. */
+    private static final int MOST_PRINTED = 50;
+
     private static int checked = 0;
     private static int wrong = 0;
 
@@ -9,16 +12,21 @@ final class Due {
     static void is(String where, long got, long want) {
         checked++;
         if (got != want) {
-            wrong++;
-            System.out.println(where + " answered " + got + ", due is " + want);
+            tell(where + " answered " + got + ", due is " + want);
         }
     }
 
     static void holds(String what, boolean so) {
         checked++;
         if (!so) {
-            wrong++;
-            System.out.println("not so: " + what);
+            tell("not so: " + what);
+        }
+    }
+
+    private static void tell(String fault) {
+        wrong++;
+        if (wrong <= MOST_PRINTED) {
+            System.out.println(fault);
         }
     }
 
