@@ -107,7 +107,14 @@ public final class LentParts {
             return TEXT_FAULT - fault;
         }
         history.open(now);
-        return close(performActs());
+        for (int act = 0; act < text.acts; act++) {
+            int answer = performAct(act * Text.SLOTS);
+            if (answer < 0 && answer != NONE) {
+                noteStop(act, answer);
+                return close(NOT_POSSIBLE);
+            }
+        }
+        return close(text.acts);
     }
 
     public int stop(int what) {
@@ -266,17 +273,10 @@ public final class LentParts {
         return ended == 0 ? NONE : ONLY_GATHERED;
     }
 
-    private int performActs() {
-        for (int act = 0; act < text.acts; act++) {
-            int answer = performAct(act * Text.SLOTS);
-            if (answer < 0 && answer != NONE) {
-                stopped = true;
-                stoppedAct = act;
-                stoppedBy = answer;
-                return NOT_POSSIBLE;
-            }
-        }
-        return text.acts;
+    private void noteStop(int act, int error) {
+        stopped = true;
+        stoppedAct = act;
+        stoppedBy = error;
     }
 
     private int performAct(int row) {
@@ -378,7 +378,8 @@ public final class LentParts {
             }
             int lender = loans.lender[row];
             int cell = loans.cell[row];
-            returnParts(row);
+            moveParts(loans.borrower[row], lender, cell, loans.parts[row]);
+            loans.remove(row);
             return heldBy(lender, cell);
         }
 
@@ -386,11 +387,6 @@ public final class LentParts {
             int borrower = loans.borrower[row];
             int cell = loans.cell[row];
             return heldBy(borrower, cell) >= loans.parts[row] && !isHolding(borrower, cell);
-        }
-
-        void returnParts(int row) {
-            moveParts(loans.borrower[row], loans.lender[row], loans.cell[row], loans.parts[row]);
-            loans.remove(row);
         }
 
         private void moveParts(int from, int to, int cell, int parts) {
@@ -712,20 +708,26 @@ public final class LentParts {
         int run(State state, int agent, int cell) {
             Arrays.fill(idleAt, -1);
             int before = state.loans.ended;
-            gatherFor(state, agent, cell, 0, 0);
+            gatherFor(state, idleAt, agent, cell, 0, 0);
             return state.loans.ended - before;
         }
 
-        private void gatherFor(State state, int agent, int cell, int busy, int depth) {
+        private static void gatherFor(State state, int[] idleAt, int agent, int cell, int busy, int depth) {
             Loans loans = state.loans;
             int before = loans.ended;
             int idle = busy * AGENTS + agent;
+            int nowBusy = busy | (1 << agent);
             if (depth >= AGENTS || idleAt[idle] == before) {
                 return;
             }
             int loan = loans.latestAhead(MAX_MADE, agent, cell);
             for (int turn = 0; turn < MAX_LOANS && loan >= 0; turn++) {
-                callIn(state, loan, busy | (1 << agent), depth);
+                int borrower = needyBorrower(state, loan, nowBusy);
+                if (borrower >= 0) {
+                    gatherFor(state, idleAt, borrower, cell, nowBusy, depth + 1);
+                }
+                // a loan that cannot be given back stays, and the next one has its turn
+                state.endLoan(loan);
                 loan = loans.latestAhead(loan, agent, cell);
             }
             if (loans.ended == before) {
@@ -733,23 +735,16 @@ public final class LentParts {
             }
         }
 
-        private void callIn(State state, int loan, int busy, int depth) {
-            Loans loans = state.loans;
-            int row = loans.rowOf(loan);
+        /** The borrower of the loan, if it has to gather for it and is not gathering yet, or -1. */
+        private static int needyBorrower(State state, int loan, int busy) {
+            int row = state.loans.rowOf(loan);
             if (row < 0) {
-                return;
+                return -1;
             }
-            int borrower = loans.borrower[row];
-            int cell = loans.cell[row];
+            int borrower = state.loans.borrower[row];
             boolean isBusy = ((busy >> borrower) & 1) != 0;
-            if (!isBusy && state.heldBy(borrower, cell) < loans.parts[row]) {
-                gatherFor(state, borrower, cell, busy, depth + 1);
-                // the borrower's gathering may have removed rows ahead of this one
-                row = loans.rowOf(loan);
-            }
-            if (row >= 0 && state.canEndLoan(row)) {
-                state.returnParts(row);
-            }
+            boolean hasEnough = state.heldBy(borrower, state.loans.cell[row]) >= state.loans.parts[row];
+            return isBusy || hasEnough ? -1 : borrower;
         }
     }
 
@@ -840,14 +835,10 @@ public final class LentParts {
 
         private boolean readAct() {
             int row = acts * SLOTS;
-            if (row >= slots.length || !readForm(row)) {
+            if (row + SLOTS > slots.length) {
                 return false;
             }
             acts++;
-            return true;
-        }
-
-        private boolean readForm(int row) {
             slots[row] = signHere();
             switch (slots[row]) {
                 case 'l': return readLoan(row);
