@@ -8,6 +8,7 @@ import java.util.Map;
 final class Calls {
     private final Object object;
     private final Map<String, Method> methods = new HashMap<>();
+    private int made = 0;
 
     Calls(Class<?> face) {
         try {
@@ -23,6 +24,11 @@ final class Calls {
         }
     }
 
+    /** How many calls were made so far. */
+    int made() {
+        return made;
+    }
+
     int call(String name, int... numbers) {
         Method method = methods.get(name);
         if (method == null) {
@@ -36,6 +42,7 @@ final class Calls {
         for (int i = 0; i < numbers.length; i++) {
             arguments[i] = argument(types[i], numbers[i]);
         }
+        made++;
         try {
             return (Integer) method.invoke(object, arguments);
         } catch (IllegalAccessException | InvocationTargetException e) {

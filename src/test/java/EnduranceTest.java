@@ -14,6 +14,7 @@ public final class EnduranceTest {
         thousandLoans();
         manyStates();
         fullTexts();
+        anyNumbers();
         room();
         Due.end();
     }
@@ -139,6 +140,32 @@ public final class EnduranceTest {
         }
         Due.is("count", x.count(4), 8 * (CALLS - 60));
         Due.is("cell", x.cell(0, 1), 8 * (CALLS - 60));
+    }
+
+    /** No call may throw or fail to end, whatever its arguments are; also behind the last call of which anything is promised. */
+    private static void anyNumbers() {
+        int[] numbers = {Integer.MIN_VALUE, -1000, -7, -1, 0, 1, 2, 3, 4, 5, 6, 7, 8, 9, 39, 40, 63, 64, 65, 999, 1000, 1 << 30, Integer.MAX_VALUE};
+        String[] names = {
+            "lend", "half", "giveBack", "gather", "hold", "write", "read", "claim", "serve", "handOver", "type", "perform", "stop", "undo", "keep",
+            "restore", "cell", "part", "loan", "reason", "chain", "count", "lend", "half", "clearText",
+        };
+        int[] arguments = {4, 3, 1, 2, 3, 3, 2, 3, 1, 2, 1, 0, 1, 0, 0, 0, 2, 3, 2, 2, 1, 1, 4, 3, 0};
+        Calls object = new Calls(LentParts.class);
+        long seed = 1;
+        int answers = 0;
+        for (int call = 0; call < 200_000; call++) {
+            seed = seed * 6364136223846793005L + 1442695040888963407L;
+            int name = (int) ((seed >>> 33) % names.length);
+            int[] given = new int[arguments[name]];
+            for (int i = 0; i < given.length; i++) {
+                seed = seed * 6364136223846793005L + 1442695040888963407L;
+                int choice = (int) (seed >>> 33);
+                given[i] = choice % 10 == 0 ? numbers[choice / 10 % numbers.length] : numbers[4 + choice / 10 % 6];
+            }
+            object.call(names[name], given);
+            answers++;
+        }
+        Due.is("answers to any numbers", answers, 200_000);
     }
 
     /** Rows are made with the object and used again. */
