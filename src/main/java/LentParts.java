@@ -2,10 +2,15 @@ import java.util.Arrays;
 
 /** Cells whose 64 parts are held by agents, lent on, given back and gathered. */
 public final class LentParts {
+    /** There is no such agent, cell or loan. */
     public static final int UNKNOWN = -1;
+    /** Another argument is out of range. */
     public static final int BAD_VALUE = -2;
+    /** There is no more room. */
     public static final int FULL = -3;
+    /** This is not possible. */
     public static final int NOT_POSSIBLE = -4;
+    /** There is no such thing; not an error. */
     public static final int NONE = -5;
 
     private static final int CELLS = 6;
